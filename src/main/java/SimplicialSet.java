@@ -108,56 +108,23 @@ public final class SimplicialSet {
     // ---- simplices
 
     public int faceCell(int cell, int n, int mask, int i) {
-        int error = checkSimplex(cell, n, mask, 1, MAX_SIMPLEX_DIMENSION);
-        if (error != 0) {
-            return error;
-        }
-        if (i < 0 || i > n) {
-            return BAD_INDEX;
-        }
-        return cellOf(present.faceOf(pack(cell, mask), n, i));
+        int error = checkPlace(cell, n, mask, i, 1, MAX_SIMPLEX_DIMENSION);
+        return error != 0 ? error : cellOf(present.faceOf(pack(cell, mask), n, i));
     }
 
     public int faceMask(int cell, int n, int mask, int i) {
-        int error = checkSimplex(cell, n, mask, 1, MAX_SIMPLEX_DIMENSION);
-        if (error != 0) {
-            return error;
-        }
-        if (i < 0 || i > n) {
-            return BAD_INDEX;
-        }
-        return maskOf(present.faceOf(pack(cell, mask), n, i));
+        int error = checkPlace(cell, n, mask, i, 1, MAX_SIMPLEX_DIMENSION);
+        return error != 0 ? error : maskOf(present.faceOf(pack(cell, mask), n, i));
     }
 
     public int degeneracyMask(int cell, int n, int mask, int i) {
-        int error = checkSimplex(cell, n, mask, 0, MAX_SIMPLEX_DIMENSION - 1);
-        if (error != 0) {
-            return error;
-        }
-        if (i < 0 || i > n) {
-            return BAD_INDEX;
-        }
-        int below = mask & lowBits(i);
-        return below | (mask >> i) << (i + 1);
+        int error = checkPlace(cell, n, mask, i, 0, MAX_SIMPLEX_DIMENSION - 1);
+        return error != 0 ? error : withClearBit(mask, i);
     }
 
     public int vertex(int cell, int n, int mask, int j) {
-        int error = checkSimplex(cell, n, mask, 0, MAX_SIMPLEX_DIMENSION);
-        if (error != 0) {
-            return error;
-        }
-        if (j < 0 || j > n) {
-            return BAD_INDEX;
-        }
-        int simplex = pack(cell, mask);
-        int size = n;
-        for (int i = n; i >= 0; i--) {
-            if (i != j) {
-                simplex = present.faceOf(simplex, size, i);
-                size--;
-            }
-        }
-        return cellOf(simplex);
+        int error = checkPlace(cell, n, mask, j, 0, MAX_SIMPLEX_DIMENSION);
+        return error != 0 ? error : cellOf(pointAt(pack(cell, mask), n, j));
     }
 
     public int simplexCount(int n) {
@@ -309,15 +276,34 @@ public final class SimplicialSet {
         draft.drop();
     }
 
-    /** The first error of a simplex whose dimension must lie between two bounds, 0 if there is none. */
-    private int checkSimplex(int cell, int n, int mask, int least, int greatest) {
+    /**
+     * The first error of a simplex, whose dimension must lie between two bounds, and of a place
+     * in its sequence; 0 if there is none.
+     */
+    private int checkPlace(int cell, int n, int mask, int place, int least, int greatest) {
         if (!present.has(cell)) {
             return NO_SUCH_CELL;
         }
         if (n < least || n > greatest) {
             return BAD_DIMENSION;
         }
-        return present.isMask(cell, n, mask) ? 0 : BAD_MASK;
+        if (!present.isMask(cell, n, mask)) {
+            return BAD_MASK;
+        }
+        return place < 0 || place > n ? BAD_INDEX : 0;
+    }
+
+    /** Takes faces, the greatest numbers first, until only one place of the sequence is left. */
+    private int pointAt(int simplex, int n, int place) {
+        int left = simplex;
+        int size = n;
+        for (int i = n; i >= 0; i--) {
+            if (i != place) {
+                left = present.faceOf(left, size, i);
+                size--;
+            }
+        }
+        return left;
     }
 
     /** Puts the two vertices of a cell of dimension 1 into one part; tells whether they were in two. */
@@ -390,6 +376,11 @@ public final class SimplicialSet {
     /** The mask with one bit removed; the bits above it move down. */
     private static int withoutBit(int mask, int bit) {
         return mask & lowBits(bit) | mask >> (bit + 1) << bit;
+    }
+
+    /** The mask with a clear bit put in at a place; the bits from there on move up. */
+    private static int withClearBit(int mask, int bit) {
+        return mask & lowBits(bit) | mask >> bit << (bit + 1);
     }
 
     /** Removes from a mask all bits whose places are not set in another one. */
@@ -744,17 +735,17 @@ public final class SimplicialSet {
         /** Finds the rank, and the absolute value of a minor of that size that is not 0. */
         private void eliminate() {
             rank = 0;
-            long product = 1L;
+            long determinant = 1L;
             for (int column = 0; column < matrix.columns; column++) {
                 int row = matrix.rowWithEntry(rank, column);
                 if (row != UNSET) {
                     matrix.swapRows(rank, row);
-                    product = matrix.times(product, matrix.at(rank, column));
+                    determinant = matrix.times(determinant, matrix.at(rank, column));
                     clearBelow(rank, column);
                     rank++;
                 }
             }
-            minor = Math.min(product, PRIME - product);
+            minor = Math.min(determinant, PRIME - determinant);
         }
 
         private void clearBelow(int top, int column) {
