@@ -688,13 +688,13 @@ public final class SimplicialSet {
      * at most 23 independent columns unless its dimension is 1 (then all minors are 0, 1 or -1),
      * each of length at most sqrt(9 + 4), so by Hadamard no minor exceeds 13^11.5 &lt; 2^43.
      * Hence a minor is 0 if it is 0 modulo PRIME, and its absolute value can be read off its
-     * residue. The invariant factors divide any greatest minor that is not 0, so that they can
-     * be found modulo that minor.
+     * residue. The invariant factors divide any minor of the size of the rank that is not 0, so
+     * that they can be found modulo that minor; there, 0 stands for the minor itself.
      */
     private static final class Homology {
         /** 2^45 - 55, more than twice any minor. */
         private static final long PRIME = 35184372088777L;
-        /** Two rounds at least halve a pivot below 2^43. */
+        /** Enough, since two rounds at least halve a pivot and all pivots are below 2^43. */
         private static final int MAX_ROUNDS = 100;
 
         final Residues matrix = new Residues();
@@ -758,10 +758,9 @@ public final class SimplicialSet {
 
         /** Makes all entries of the row and the column of a place 0 but for the one on the diagonal. */
         private void isolatePivot(int place) {
-            matrix.moveLeast(place, false);
             for (int round = 0; round < MAX_ROUNDS && !matrix.isIsolated(place); round++) {
+                matrix.moveLeast(place);
                 matrix.reduceCross(place);
-                matrix.moveLeast(place, true);
             }
         }
 
@@ -900,20 +899,19 @@ public final class SimplicialSet {
             }
         }
 
-        /**
-         * Moves the least entry that is not 0 to a place of the diagonal, from the rows and
-         * columns that are not done yet or, of these, from the cross of that place alone.
-         */
-        void moveLeast(int place, boolean crossOnly) {
+        /** Moves the least entry that is not 0 to a place of the diagonal, from its row or its column. */
+        void moveLeast(int place) {
             int bestRow = place;
             int bestColumn = place;
-            for (int row = place; row < rows; row++) {
-                for (int column = place; column < columns; column++) {
-                    boolean inCross = row == place || column == place;
-                    if ((inCross || !crossOnly) && isLess(at(row, column), at(bestRow, bestColumn))) {
-                        bestRow = row;
-                        bestColumn = column;
-                    }
+            for (int row = place + 1; row < rows; row++) {
+                if (isLess(at(row, place), at(bestRow, place))) {
+                    bestRow = row;
+                }
+            }
+            for (int column = place + 1; column < columns; column++) {
+                if (isLess(at(place, column), at(bestRow, bestColumn))) {
+                    bestRow = place;
+                    bestColumn = column;
                 }
             }
             swapRows(place, bestRow);

@@ -9,6 +9,7 @@ import java.nio.file.Path;
 import java.util.Arrays;
 import java.util.Set;
 import java.util.TreeSet;
+import java.util.regex.Pattern;
 import java.util.stream.Collectors;
 
 /** The class shows exactly the document's face, and its text keeps to LANGUAGE.md where that is easy to see. */
@@ -96,8 +97,12 @@ public final class FaceTest {
         String text = Files.readString(Path.of("src/main/java/SimplicialSet.java"));
         String code = text.replaceAll("(?s)/\\*.*?\\*/", "").replaceAll("//[^\n]*", "");
         for (String forbidden : FORBIDDEN) {
-            boolean found = java.util.regex.Pattern.compile(forbidden, java.util.regex.Pattern.MULTILINE).matcher(code).find();
+            boolean found = Pattern.compile(forbidden, Pattern.MULTILINE).matcher(code).find();
             CHECKS.holds("no " + forbidden, !found);
+        }
+        for (String line : code.split("\n")) {
+            boolean isField = line.matches(" *(private |final )+[\\w\\[\\]]+ \\w+ = new .*;");
+            CHECKS.holds("objects are made with their owner alone: " + line, !line.matches(".*\\bnew\\b.*") || isField);
         }
         CHECKS.holds("signs 1 to 127 alone", text.chars().allMatch(sign -> sign > 0 && sign < 128));
     }

@@ -1,5 +1,3 @@
-import java.util.ArrayList;
-import java.util.List;
 import java.util.Random;
 
 /** Runs of up to 512 calls from fixed seeds, each call compared with the model's answer. */
@@ -10,11 +8,13 @@ public final class RandomRunsTest {
 
     private final Random random;
     private final Twins twins;
+    private final CellBuilder builder;
     private final int vertices;
 
     private RandomRunsTest(Checks checks, long seed) {
         random = new Random(seed);
         twins = new Twins(checks);
+        builder = new CellBuilder(twins, random, 40);
         vertices = 1 + random.nextInt(4);
     }
 
@@ -69,36 +69,7 @@ public final class RandomRunsTest {
             twins.addVertex();
             return;
         }
-        int m = 1 + random.nextInt(4);
-        twins.beginCell(m);
-        List<Model.Simplex> candidates = Model.simplices(twins.model.cells, m - 1);
-        List<Model.Simplex> faces = new ArrayList<>();
-        for (int k = 0; k <= m; k++) {
-            Model.Simplex face = fittingFace(candidates, faces);
-            faces.add(face);
-            twins.setFace(k, face.cell, face.mask());
-            if (random.nextInt(60) == 0) {
-                twins.endCell();
-            }
-        }
-        twins.endCell();
-    }
-
-    /** A face that satisfies the identities with the faces before it, if there is one. */
-    private Model.Simplex fittingFace(List<Model.Simplex> candidates, List<Model.Simplex> faces) {
-        List<Model.Simplex> fitting = new ArrayList<>();
-        int j = faces.size();
-        for (Model.Simplex candidate : candidates) {
-            boolean fits = true;
-            for (int i = 0; i < j && candidate.sequence.length > 1; i++) {
-                fits = fits && twins.model.fit(faces.get(i), i, candidate, j);
-            }
-            if (fits) {
-                fitting.add(candidate);
-            }
-        }
-        List<Model.Simplex> chosen = fitting.isEmpty() || random.nextInt(30) == 0 ? candidates : fitting;
-        return chosen.get(random.nextInt(chosen.size()));
+        builder.build(1 + random.nextInt(4));
     }
 
     /** Calls that come at the wrong time or with any numbers. */

@@ -1,5 +1,7 @@
 /** A new object and the model beside it: every call is made on both, and their answers compared. */
 final class Twins {
+    private static final int PROMISED_CALLS = 512;
+
     final SimplicialSet set = new SimplicialSet();
     final Model model = new Model();
     private final Checks checks;
@@ -11,6 +13,9 @@ final class Twins {
 
     private long same(String call, long got, long want) {
         calls++;
+        if (calls > PROMISED_CALLS) {
+            checks.holds("a test keeps to " + PROMISED_CALLS + " calls", false);
+        }
         checks.due("call " + calls + " " + call, got, want);
         return want;
     }
