@@ -14,6 +14,7 @@ public final class TorsionTest {
         test.cyclicTorsionBeyondInt();
         test.severalCoefficientsInOrder();
         test.coefficientThatIsTheWholeMinor();
+        test.largestMatrix();
         test.randomMatrices();
         test.checks.finish();
     }
@@ -83,6 +84,26 @@ public final class TorsionTest {
         checks.due("torsion(1, 0)", twins.set.torsion(1, 0), 2);
         checks.due("betti(1)", twins.set.betti(1), 1);
         checks.due("betti(2)", twins.set.betti(2), 1);
+    }
+
+    /** 24 vertices and 24 edges in one circle: no boundary matrix has more entries. */
+    private void largestMatrix() {
+        checks.part("24 rows and 24 columns");
+        int size = 24;
+        Twins twins = new Twins(checks);
+        for (int vertex = 0; vertex < size; vertex++) {
+            twins.addVertex();
+        }
+        for (int edge = 0; edge < size; edge++) {
+            twins.beginCell(1);
+            twins.setFace(0, (edge + 1) % size, 0);
+            twins.setFace(1, edge, 0);
+            twins.endCell();
+        }
+        checks.due("betti(0)", twins.set.betti(0), 1);
+        checks.due("betti(1)", twins.set.betti(1), 1);
+        checks.due("torsionCount(0)", twins.set.torsionCount(0), 0);
+        checks.due("torsion(0, 0)", twins.set.torsion(0, 0), SimplicialSet.NONE);
     }
 
     private void randomMatrices() {

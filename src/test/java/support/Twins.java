@@ -125,7 +125,7 @@ final class Twins {
         same(text("unfilledCount", k), set.unfilledCount(k), model.unfilledCount(k));
     }
 
-    /** Asks for everything that can be seen of the cells: numbers, faces and invariants. */
+    /** Asks for all that can be seen of the cells: numbers and invariants, then faces while calls are left. */
     void lookAround() {
         for (int n = 0; n <= 4; n++) {
             cellCount(n);
@@ -134,19 +134,27 @@ final class Twins {
             torsionCount(n);
             torsion(n, 0);
         }
-        for (int cell = 0; cell < model.cells.size(); cell++) {
-            int m = model.cells.get(cell).dimension;
-            dimension(cell);
-            for (int i = 0; m > 0 && i <= m; i++) {
-                faceCell(cell, m, (1 << m) - 1, i);
-                faceMask(cell, m, (1 << m) - 1, i);
-            }
-        }
         for (int k = 0; k <= 2; k++) {
             hornCount(k);
             unfilledCount(k);
         }
         eulerCharacteristic();
         partCount();
+        // The cells of the greatest dimension come last and have the most faces: they are asked first.
+        for (int cell = model.cells.size() - 1; cell >= 0; cell--) {
+            lookAt(cell);
+        }
+    }
+
+    private void lookAt(int cell) {
+        int m = model.cells.get(cell).dimension;
+        if (calls + 2 * m + 3 > PROMISED_CALLS) {
+            return;
+        }
+        dimension(cell);
+        for (int i = 0; m > 0 && i <= m; i++) {
+            faceCell(cell, m, (1 << m) - 1, i);
+            faceMask(cell, m, (1 << m) - 1, i);
+        }
     }
 }
