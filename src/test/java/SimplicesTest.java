@@ -141,22 +141,28 @@ public final class SimplicesTest {
         }
     }
 
+    /** Every simplex, and every place in it and beside it. */
     private static void everySimplexOfASimplex() {
         CHECKS.part("promises 9 to 13, every simplex of loadSimplex(4)");
         for (int n = 0; n <= 6; n++) {
             for (int cell = 0; cell < 31; cell++) {
-                Twins twins = new Twins(CHECKS);
-                twins.loadSimplex(4);
-                for (int mask = 0; mask < 1 << n; mask++) {
-                    int place = (cell + mask) % (n + 2);
-                    twins.faceCell(cell, n, mask, place);
-                    twins.faceMask(cell, n, mask, place);
-                    twins.degeneracyMask(cell, n, mask, place);
-                    twins.vertex(cell, n, mask, place);
+                for (int place = -1; place <= n + 1; place++) {
+                    askAt(cell, n, place);
                 }
-                twins.simplexCount(n);
             }
         }
+    }
+
+    private static void askAt(int cell, int n, int place) {
+        Twins twins = new Twins(CHECKS);
+        twins.loadSimplex(4);
+        for (int mask = 0; mask < 1 << n; mask++) {
+            twins.faceCell(cell, n, mask, place);
+            twins.faceMask(cell, n, mask, place);
+            twins.degeneracyMask(cell, n, mask, place);
+            twins.vertex(cell, n, mask, place);
+        }
+        twins.simplexCount(n);
     }
 
     private static void counts() {
