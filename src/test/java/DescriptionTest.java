@@ -34,7 +34,8 @@ public final class DescriptionTest {
         CHECKS.due("a cell of dimension 4", x.sphere(4), 1);
         x.due(2, "addVertex");
         CHECKS.due("a cell of dimension 1", x.sphere(1), 3);
-        x.due(4, "dimension", 1).due(0, "dimension", 2).due(1, "dimension", 3).due(SimplicialSet.NO_SUCH_CELL, "dimension", 4);
+        x.due(4, "dimension", 1).due(0, "dimension", 2).due(1, "dimension", 3)
+                .due(SimplicialSet.NO_SUCH_CELL, "dimension", 4);
     }
 
     private static void degenerateOnlyAboveItsDimension() {
@@ -57,12 +58,16 @@ public final class DescriptionTest {
         CHECKS.part("faces 0 and n, where the number at the end is repeated and where it is missing then");
         Calls x = new Calls(CHECKS).due(7, "loadSimplex", 2);
         // 0 1 2: the ends are missing then
-        x.due(5, "faceCell", 6, 2, 3, 0).due(1, "faceMask", 6, 2, 3, 0).due(3, "faceCell", 6, 2, 3, 2).due(1, "faceMask", 6, 2, 3, 2);
+        x.due(5, "faceCell", 6, 2, 3, 0).due(1, "faceMask", 6, 2, 3, 0).due(3, "faceCell", 6, 2, 3, 2)
+                .due(1, "faceMask", 6, 2, 3, 2);
         // 0 0 1 2 2: both ends are repeated
-        x.due(6, "faceCell", 6, 4, 6, 0).due(3, "faceMask", 6, 4, 6, 0).due(6, "faceCell", 6, 4, 6, 4).due(6, "faceMask", 6, 4, 6, 4);
+        x.due(6, "faceCell", 6, 4, 6, 0).due(3, "faceMask", 6, 4, 6, 0).due(6, "faceCell", 6, 4, 6, 4)
+                .due(6, "faceMask", 6, 4, 6, 4);
         // 0 1 1 2: the middle is repeated, the ends are not
-        x.due(5, "faceCell", 6, 3, 5, 0).due(2, "faceMask", 6, 3, 5, 0).due(3, "faceCell", 6, 3, 5, 3).due(1, "faceMask", 6, 3, 5, 3);
-        x.due(6, "faceCell", 6, 3, 5, 1).due(3, "faceMask", 6, 3, 5, 1).due(6, "faceCell", 6, 3, 5, 2).due(3, "faceMask", 6, 3, 5, 2);
+        x.due(5, "faceCell", 6, 3, 5, 0).due(2, "faceMask", 6, 3, 5, 0).due(3, "faceCell", 6, 3, 5, 3)
+                .due(1, "faceMask", 6, 3, 5, 3);
+        x.due(6, "faceCell", 6, 3, 5, 1).due(3, "faceMask", 6, 3, 5, 1).due(6, "faceCell", 6, 3, 5, 2)
+                .due(3, "faceMask", 6, 3, 5, 2);
         CHECKS.part("faces of dimension 0");
         x.due(1, "faceCell", 3, 1, 1, 0).due(0, "faceCell", 3, 1, 1, 1).due(0, "faceMask", 3, 1, 1, 0);
         x.due(2, "faceCell", 2, 1, 0, 0).due(2, "faceCell", 2, 1, 0, 1).due(0, "faceMask", 2, 1, 0, 1);
@@ -71,7 +76,8 @@ public final class DescriptionTest {
     private static void degeneraciesAtTheEndsOfASequence() {
         CHECKS.part("degeneracies 0 and n");
         Calls x = new Calls(CHECKS).due(7, "loadSimplex", 2);
-        x.due(0, "degeneracyMask", 0, 0, 0, 0).due(6, "degeneracyMask", 6, 2, 3, 0).due(3, "degeneracyMask", 6, 2, 3, 2);
+        x.due(0, "degeneracyMask", 0, 0, 0, 0).due(6, "degeneracyMask", 6, 2, 3, 0)
+                .due(3, "degeneracyMask", 6, 2, 3, 2);
         // 0 0 0 0 1 2 and 0 1 2 2 2 2 become the last masks of dimension 6 and stay the first ones
         x.due(48, "degeneracyMask", 6, 5, 24, 0).due(24, "degeneracyMask", 6, 5, 24, 5);
         x.due(6, "degeneracyMask", 6, 5, 3, 0).due(3, "degeneracyMask", 6, 5, 3, 5);
@@ -227,13 +233,16 @@ public final class DescriptionTest {
                 if (n + saved > 4) {
                     x.due(SimplicialSet.BAD_DIMENSION, "product").due(n, "dimension", 1).due(1, "betti", n);
                 } else {
-                    x.due(cells[n - 1][saved - 1], "product").due(n == saved ? 2 : 1, "betti", n).due(1, "betti", n + saved);
+                    x.due(cells[n - 1][saved - 1], "product").due(n == saved ? 2 : 1, "betti", n)
+                            .due(1, "betti", n + saved);
                 }
             }
         }
         CHECKS.part("product with dimension 4 and with dimension 0");
-        new Calls(CHECKS).due(2, "loadSphere", 4).due(2, "save").due(1, "loadSimplex", 0).due(2, "product").due(4, "dimension", 1);
-        new Calls(CHECKS).due(1, "loadSimplex", 0).due(1, "save").due(2, "loadSphere", 4).due(2, "product").due(4, "dimension", 1);
+        new Calls(CHECKS).due(2, "loadSphere", 4).due(2, "save").due(1, "loadSimplex", 0).due(2, "product")
+                .due(4, "dimension", 1);
+        new Calls(CHECKS).due(1, "loadSimplex", 0).due(1, "save").due(2, "loadSphere", 4).due(2, "product")
+                .due(4, "dimension", 1);
     }
 
     private static void the512thCall() {

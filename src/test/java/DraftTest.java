@@ -34,15 +34,22 @@ public final class DraftTest {
         return new Calls(CHECKS).due(7, "loadSimplex", 2);
     }
 
+    /** The old draft is whole, with all faces at the vertex 1; the new one gets its faces at the vertex 0. */
     private static void begunAnew(int old, int m) {
         CHECKS.part("a draft of dimension " + m + " begun over one of dimension " + old);
-        Calls x = Calls.withVertices(CHECKS, 1).due(1, "beginCell", old).faces(new int[2 * old + 2]);
+        Calls x = Calls.withVertices(CHECKS, 2).due(1, "beginCell", old);
+        for (int k = 0; k <= old; k++) {
+            x.due(1, "setFace", k, 1, 0);
+        }
         x.due(1, "beginCell", m);
         for (int k = m; k >= 0; k--) {
             x.due(SimplicialSet.INCOMPLETE, "endCell").due(SimplicialSet.BAD_INDEX, "setFace", m + 1, 0, 0);
             x.due(1, "setFace", k, 0, 0);
         }
-        x.due(1, "endCell").due(m, "dimension", 1).due(1, "cellCount", m).due(SimplicialSet.NO_DRAFT, "endCell");
+        x.due(2, "endCell").due(m, "dimension", 2).due(1, "cellCount", m).due(SimplicialSet.NO_DRAFT, "endCell");
+        for (int k = 0; k <= m; k++) {
+            x.due(0, "faceCell", 2, m, (1 << m) - 1, k);
+        }
     }
 
     private static void atMostOne() {
@@ -125,7 +132,8 @@ public final class DraftTest {
     private static void removedBy(String remover) {
         CHECKS.part("the draft is removed by " + remover);
         for (int m = 1; m <= 4; m++) {
-            Calls x = new Calls(CHECKS).due(2, "loadSphere", 1).due(2, "save").due(1, "beginCell", 2).faces(0, 0, 0, 0, 0, 0);
+            Calls x = new Calls(CHECKS).due(2, "loadSphere", 1).due(2, "save")
+                    .due(1, "beginCell", 2).faces(0, 0, 0, 0, 0, 0);
             remove(x, remover);
             x.due(SimplicialSet.NO_DRAFT, "endCell").due(SimplicialSet.NO_DRAFT, "setFace", 0, 0, 0);
             x.due(SimplicialSet.NO_DRAFT, "setFace", -1, -1, -1);
@@ -144,7 +152,8 @@ public final class DraftTest {
     private static void keptByOtherCalls() {
         CHECKS.part("the draft stays beside calls that do not speak of it");
         Calls x = triangle().due(1, "beginCell", 2).due(1, "setFace", 0, 5, 1).due(1, "setFace", 2, 3, 1);
-        x.due(7, "addVertex").due(8, "save").due(3, "cellCount", 1).due(2, "dimension", 6).due(5, "faceCell", 6, 2, 3, 0);
+        x.due(7, "addVertex").due(8, "save").due(3, "cellCount", 1).due(2, "dimension", 6)
+                .due(5, "faceCell", 6, 2, 3, 0);
         x.due(1, "faceMask", 6, 2, 3, 0).due(6, "degeneracyMask", 6, 2, 3, 0).due(2, "vertex", 6, 2, 3, 2);
         x.due(4, "simplexCount", 0).due(2, "eulerCharacteristic").due(2, "partCount").due(1, "incidence", 6, 5);
         x.due(2, "betti", 0).due(0, "torsionCount", 1).due(SimplicialSet.NONE, "torsion", 1, 0);
@@ -161,10 +170,12 @@ public final class DraftTest {
         x.due(SimplicialSet.BAD_DIMENSION, "loadSphere", 0).due(SimplicialSet.BAD_DIMENSION, "loadSphere", 5);
         x.due(SimplicialSet.FULL, "product").due(7, "endCell").due(5, "faceCell", 7, 2, 3, 0);
         CHECKS.part("the draft stays after a product of too great a dimension");
-        x = new Calls(CHECKS).due(2, "loadSphere", 3).due(2, "save").due(7, "loadSimplex", 2).due(1, "beginCell", 1).faces(0, 0, 1, 0);
+        x = new Calls(CHECKS).due(2, "loadSphere", 3).due(2, "save").due(7, "loadSimplex", 2)
+                .due(1, "beginCell", 1).faces(0, 0, 1, 0);
         x.due(SimplicialSet.BAD_DIMENSION, "product").due(7, "endCell").due(0, "faceCell", 7, 1, 1, 0);
         CHECKS.part("the draft stays after addVertex in a full set");
-        x = Calls.withVertices(CHECKS, 48).due(1, "beginCell", 1).faces(0, 0, 47, 0).due(SimplicialSet.FULL, "addVertex");
+        x = Calls.withVertices(CHECKS, 48).due(1, "beginCell", 1).faces(0, 0, 47, 0)
+                .due(SimplicialSet.FULL, "addVertex");
         x.due(SimplicialSet.FULL, "endCell");
     }
 

@@ -76,7 +76,8 @@ public final class EmptySetTest {
     private static void invariants(Calls x) {
         x.due(0, "eulerCharacteristic").due(0, "partCount");
         for (int some : SOME) {
-            x.due(SimplicialSet.NO_SUCH_CELL, "incidence", some, 0).due(SimplicialSet.NO_SUCH_CELL, "incidence", 0, some);
+            x.due(SimplicialSet.NO_SUCH_CELL, "incidence", some, 0)
+                    .due(SimplicialSet.NO_SUCH_CELL, "incidence", 0, some);
         }
         for (int n = 0; n <= 4; n++) {
             x.due(0, "betti", n).due(0, "torsionCount", n);
@@ -120,7 +121,8 @@ public final class EmptySetTest {
         }
         Calls.withVertices(CHECKS, 48).due(0, "product").due(0, "cellCount", 0).due(0, "addVertex");
         CHECKS.part("product with an empty set saved over another one");
-        new Calls(CHECKS).due(2, "loadSphere", 4).due(2, "save").due(2, "clear").due(0, "save").due(31, "loadSimplex", 4)
+        new Calls(CHECKS).due(2, "loadSphere", 4).due(2, "save").due(2, "clear").due(0, "save")
+                .due(31, "loadSimplex", 4)
                 .due(0, "product").due(0, "partCount");
     }
 
@@ -132,7 +134,8 @@ public final class EmptySetTest {
             // The saved set stays.
             x.due(0, "addVertex").due(2, "product").due(n, "dimension", 1);
         }
-        Calls.withVertices(CHECKS, 48).due(48, "save").due(48, "clear").due(0, "product").due(0, "addVertex").due(48, "product");
+        Calls.withVertices(CHECKS, 48).due(48, "save").due(48, "clear").due(0, "product").due(0, "addVertex")
+                .due(48, "product");
     }
 
     private static void savingNothing() {
@@ -146,9 +149,11 @@ public final class EmptySetTest {
         CHECKS.part("a new object has no draft");
         new Calls(CHECKS).due(SimplicialSet.NO_DRAFT, "endCell");
         new Calls(CHECKS).due(SimplicialSet.NO_DRAFT, "setFace", 0, 0, 0);
-        new Calls(CHECKS).due(0, "addVertex").due(SimplicialSet.NO_DRAFT, "setFace", 0, 0, 0).due(SimplicialSet.NO_DRAFT, "endCell");
+        new Calls(CHECKS).due(0, "addVertex").due(SimplicialSet.NO_DRAFT, "setFace", 0, 0, 0)
+                .due(SimplicialSet.NO_DRAFT, "endCell");
         new Calls(CHECKS).due(SimplicialSet.BAD_DIMENSION, "beginCell", 0).due(SimplicialSet.NO_DRAFT, "endCell");
-        new Calls(CHECKS).due(SimplicialSet.BAD_DIMENSION, "beginCell", 5).due(SimplicialSet.NO_DRAFT, "setFace", 0, 0, 0);
+        new Calls(CHECKS).due(SimplicialSet.BAD_DIMENSION, "beginCell", 5)
+                .due(SimplicialSet.NO_DRAFT, "setFace", 0, 0, 0);
     }
 
     /** A draft can be begun in a set without cells; it has no cell to take faces from until there is a vertex. */

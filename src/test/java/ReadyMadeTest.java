@@ -18,6 +18,7 @@ public final class ReadyMadeTest {
         productWithoutCells();
         productRemovesTheDraft();
         productsOfManySets();
+        productsOfProducts();
         productAtTheLimit();
         CHECKS.finish();
     }
@@ -237,6 +238,25 @@ public final class ReadyMadeTest {
             twins.loadSimplex(which);
         } else {
             twins.loadSphere(which - 4);
+        }
+    }
+
+    /** The present set of a second product is itself a product, and its first cells are read while new ones are made. */
+    private static void productsOfProducts() {
+        for (int which = 5; which < 7; which++) {
+            CHECKS.part("promise 25, set " + which + " in a product of a product");
+            Twins twins = new Twins(CHECKS);
+            twins.loadSphere(1);
+            twins.save();
+            load(twins, which);
+            twins.product();
+            twins.product();
+            twins.lookAround();
+            twins.product();
+            twins.loadSimplex(1);
+            twins.product();
+            twins.product();
+            twins.lookAround();
         }
     }
 
