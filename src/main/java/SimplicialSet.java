@@ -42,7 +42,7 @@ public final class SimplicialSet {
     // ---- cells
 
     public int addVertex() {
-        return present.count >= MAX_CELLS ? FULL : present.append(0, faceRow);
+        return present.append(0, faceRow);
     }
 
     public int beginCell(int dimension) {
@@ -80,11 +80,10 @@ public final class SimplicialSet {
         if (!draft.satisfiesIdentities(present)) {
             return IDENTITY;
         }
-        if (present.count >= MAX_CELLS) {
-            return FULL;
-        }
         int cell = present.append(draft.size, draft.faces);
-        draft.drop();
+        if (cell != FULL) {
+            draft.drop();
+        }
         return cell;
     }
 
@@ -308,11 +307,13 @@ public final class SimplicialSet {
 
     /** Puts the two vertices of a cell of dimension 1 into one part; tells whether they were in two. */
     private boolean joinEnds(int edge) {
-        int kept = partOf[cellOf(present.faceAt(edge, 0))];
-        int given = partOf[cellOf(present.faceAt(edge, 1))];
-        if (kept == given) {
+        int one = cellOf(present.faceAt(edge, 0));
+        int other = cellOf(present.faceAt(edge, 1));
+        if (!present.has(one) || !present.has(other) || partOf[one] == partOf[other]) {
             return false;
         }
+        int kept = partOf[one];
+        int given = partOf[other];
         for (int cell = 0; cell < present.count; cell++) {
             if (partOf[cell] == given) {
                 partOf[cell] = kept;
@@ -444,12 +445,16 @@ public final class SimplicialSet {
             return mask >= 0 && mask <= lowBits(n) && Integer.bitCount(mask) == dimensions[cell];
         }
 
+        /** Face k of a stored cell, packed; what is no face is answered by 0, so that no index is wrong. */
         int faceAt(int cell, int k) {
-            return faces[cell * MAX_FACES + k];
+            return has(cell) && k >= 0 && k < MAX_FACES ? faces[cell * MAX_FACES + k] : 0;
         }
 
-        /** Stores a cell; the caller has seen that there is room. */
+        /** Stores a cell and returns its number, or FULL. */
         int append(int size, int[] row) {
+            if (count >= MAX_CELLS) {
+                return FULL;
+            }
             int cell = count;
             dimensions[cell] = size;
             System.arraycopy(row, 0, faces, cell * MAX_FACES, MAX_FACES);
@@ -639,7 +644,9 @@ public final class SimplicialSet {
                     if (cells.isMask(cell, 2, mask)) {
                         int a = cellOf(cells.faceOf(pack(cell, mask), 2, lower(k)));
                         int b = cellOf(cells.faceOf(pack(cell, mask), 2, upper(k)));
-                        filled[a] |= 1L << b;
+                        if (cells.has(a)) {
+                            filled[a] |= 1L << b;
+                        }
                     }
                 }
             }
@@ -794,6 +801,12 @@ public final class SimplicialSet {
             rows = numberCells(cells, n - 1);
             columns = numberCells(cells, n);
             Arrays.fill(entries, 0L);
+            if (rows * columns > MAX_ENTRIES) {
+                // 48 cells never come to this; it is tested so that no index below can be wrong.
+                rows = 0;
+                columns = 0;
+                return;
+            }
             for (int cell = 0; cell < cells.count; cell++) {
                 if (cells.dimensions[cell] == n) {
                     loadColumn(cells, cell);
@@ -817,7 +830,7 @@ public final class SimplicialSet {
             int size = cells.dimensions[cell];
             for (int k = 0; size > 0 && k <= size; k++) {
                 int face = cellOf(cells.faceAt(cell, k));
-                if (cells.dimensions[face] == size - 1) {
+                if (cells.has(face) && cells.dimensions[face] == size - 1) {
                     int index = placeOf[face] * columns + placeOf[cell];
                     entries[index] = residue(entries[index] + sign(k));
                 }
