@@ -6,7 +6,9 @@ import java.lang.reflect.Method;
 import java.lang.reflect.Modifier;
 import java.nio.file.Files;
 import java.nio.file.Path;
+import java.util.ArrayList;
 import java.util.Arrays;
+import java.util.List;
 import java.util.Set;
 import java.util.TreeSet;
 import java.util.regex.Pattern;
@@ -27,6 +29,10 @@ public final class FaceTest {
         "int betti(int)", "int torsionCount(int)", "long torsion(int,int)", "int hornCount(int)",
         "int unfilledCount(int)", "int loadSimplex(int)", "int loadSphere(int)", "int save()", "int product()"
     };
+    private static final Path SOURCE = Path.of("src/main/java/SimplicialSet.java");
+    private static final String[] LIBRARY = {
+        "Arrays.fill", "System.arraycopy", "Integer.bitCount", "Integer.highestOneBit", "Math.max", "Math.min"
+    };
     private static final String[] FORBIDDEN = {
         "\\bthrow\\b", "\\bthrows\\b", "\\btry\\b", "\\bcatch\\b", "\\bsynchronized\\b", "\\bassert\\b", "->", "::",
         "\\bnew\\s+\\w+\\s*\\([^)]*\\)\\s*\\{", "Exact\\b", "\\bstatic\\s*\\{", "^\\s*package\\b", "\\bhashCode\\b", "\\btoString\\b"
@@ -35,7 +41,10 @@ public final class FaceTest {
     public static void main(String[] args) throws IOException, IllegalAccessException {
         face();
         privateNames();
+        classesInside();
+        parameters();
         text();
+        library();
         CHECKS.finish();
     }
 
@@ -84,18 +93,67 @@ public final class FaceTest {
     private static void privateNames() {
         CHECKS.part("private names");
         Set<String> names = Arrays.stream(METHODS).map(m -> m.replaceAll(".* |\\(.*", "")).collect(Collectors.toSet());
-        for (Class<?> inner : SimplicialSet.class.getDeclaredClasses()) {
-            CHECKS.holds(inner + " is static", Modifier.isStatic(inner.getModifiers()));
-            for (Method method : inner.getDeclaredMethods()) {
-                CHECKS.holds(method + " has a name of its own", !names.contains(method.getName()));
+        for (Class<?> type : allClasses()) {
+            for (Method method : type.getDeclaredMethods()) {
+                boolean isPromised = type == SimplicialSet.class && Modifier.isPublic(method.getModifiers());
+                CHECKS.holds(method + " has a name of its own", isPromised || !names.contains(method.getName()));
             }
         }
     }
 
+    private static List<Class<?>> allClasses() {
+        List<Class<?>> all = new ArrayList<>(List.of(SimplicialSet.class.getDeclaredClasses()));
+        all.add(SimplicialSet.class);
+        return all;
+    }
+
+    private static void classesInside() {
+        CHECKS.part("classes inside");
+        CHECKS.holds("at most twelve classes", allClasses().size() <= 12);
+        for (Class<?> type : allClasses()) {
+            int modifiers = type.getModifiers();
+            boolean isInside = Modifier.isStatic(modifiers) && !Modifier.isPublic(modifiers) && !Modifier.isProtected(modifiers);
+            CHECKS.holds(type + " is static and not public", isInside || type == SimplicialSet.class);
+            CHECKS.holds(type + " has no class inside", type == SimplicialSet.class || type.getDeclaredClasses().length == 0);
+            int fields = 0;
+            for (Field field : type.getDeclaredFields()) {
+                boolean isStatic = Modifier.isStatic(field.getModifiers());
+                CHECKS.holds(field + " is final if it is static", !isStatic || Modifier.isFinal(field.getModifiers()));
+                fields += isStatic ? 0 : 1;
+            }
+            CHECKS.holds(type + " has at most twenty fields", fields <= 20);
+        }
+    }
+
+    private static void parameters() {
+        CHECKS.part("parameters");
+        for (Class<?> type : allClasses()) {
+            for (Method method : type.getDeclaredMethods()) {
+                CHECKS.holds(method + " has at most seven", method.getParameterCount() <= 7);
+            }
+        }
+    }
+
+    /** Of the library, the class uses a few functions alone, each of which LANGUAGE.md lists. */
+    private static void library() throws IOException {
+        CHECKS.part("the library");
+        String code = code();
+        Set<String> used = Pattern.compile("\\b[A-Z]\\w*\\.[a-z]\\w*\\(").matcher(code).results()
+                .map(result -> result.group().replace("(", "")).collect(Collectors.toCollection(TreeSet::new));
+        used.removeAll(Set.of(LIBRARY));
+        CHECKS.holds("others are used: " + used, used.isEmpty());
+        CHECKS.holds("Arrays alone is imported", code.replaceFirst("import java.util.Arrays;", "").indexOf("import ") < 0);
+        CHECKS.holds("no name in full", !Pattern.compile("\\bjava\\.(?!util\\.Arrays;)").matcher(code).find());
+    }
+
+    private static String code() throws IOException {
+        String text = Files.readString(SOURCE);
+        return text.replaceAll("(?s)/\\*.*?\\*/", "").replaceAll("//[^\n]*", "");
+    }
+
     private static void text() throws IOException {
         CHECKS.part("the text");
-        String text = Files.readString(Path.of("src/main/java/SimplicialSet.java"));
-        String code = text.replaceAll("(?s)/\\*.*?\\*/", "").replaceAll("//[^\n]*", "");
+        String code = code();
         for (String forbidden : FORBIDDEN) {
             boolean found = Pattern.compile(forbidden, Pattern.MULTILINE).matcher(code).find();
             CHECKS.holds("no " + forbidden, !found);
@@ -104,6 +162,6 @@ public final class FaceTest {
             boolean isField = line.matches(" *(private |final )+[\\w\\[\\]]+ \\w+ = new .*;");
             CHECKS.holds("objects are made with their owner alone: " + line, !line.matches(".*\\bnew\\b.*") || isField);
         }
-        CHECKS.holds("signs 1 to 127 alone", text.chars().allMatch(sign -> sign > 0 && sign < 128));
+        CHECKS.holds("signs 1 to 127 alone", Files.readString(SOURCE).chars().allMatch(sign -> sign > 0 && sign < 128));
     }
 }

@@ -17,6 +17,7 @@ public final class HornsTest {
         circleAndSpheres();
         fullCircle();
         fork();
+        oneAfterAnother();
         simplices();
         wrongPlaces();
         CHECKS.finish();
@@ -108,6 +109,26 @@ public final class HornsTest {
         dueAt(x, 0, 14, 4);
         dueAt(x, 1, 10, 0);
         dueAt(x, 2, 14, 4);
+    }
+
+    /** What filled a horn before, in another set or at another k, does not fill one now. */
+    private static void oneAfterAnother() {
+        CHECKS.part("a triangle and then its edges alone");
+        SimplicialSet x = new SimplicialSet();
+        x.loadSimplex(2);
+        due("unfilledCount(0)", x.unfilledCount(0), 4);
+        due("unfilledCount(1)", x.unfilledCount(1), 0);
+        due("unfilledCount(2)", x.unfilledCount(2), 4);
+        x.loadSimplex(0);
+        x.addVertex();
+        x.addVertex();
+        cell(x, 1, 0, 0, 0);
+        cell(x, 2, 0, 0, 0);
+        due("endCell()", cell(x, 2, 0, 1, 0), 5);
+        due("unfilledCount(2)", x.unfilledCount(2), 5);
+        due("unfilledCount(1)", x.unfilledCount(1), 1);
+        due("unfilledCount(0)", x.unfilledCount(0), 5);
+        due("unfilledCount(0) again", x.unfilledCount(0), 5);
     }
 
     private static void simplices() {
